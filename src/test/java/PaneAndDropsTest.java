@@ -85,6 +85,14 @@ public final class PaneAndDropsTest {
         x.tick(1);
         T.due("2: hold with 89 wet", x.cellOf(30, 2), 13);
         T.due("2: hold is 0 at least", x.cellOf(42, 2), 0);
+        x.set(2, 9);
+        x.tick(7);
+        x.set(2, 1);
+        x.dirt(54, 1);
+        T.due("2: 26 wet", x.cellOf(54, 1), 26);
+        T.due("2: 3 less 2 is 1", x.cellOf(54, 2), 1);
+        x.finger(6);
+        x.tick(10);
         x.dirt(42, 2);
         T.due("2: 6 less 8 is 0", x.cellOf(42, 2), 0);
         x.drop(0, 3, 5);
@@ -163,7 +171,7 @@ public final class PaneAndDropsTest {
     private static void clean() {
         PaneThread x = new PaneThread();
         x.dirt(23, 1);
-        x.dirt(24, 2);
+        x.dirt(24, 1);
         x.dirt(35, 9);
         x.dirt(36, 3);
         x.finger(0);
@@ -402,6 +410,14 @@ public final class PaneAndDropsTest {
         x.dirt(16, 4);
         x.tick(1);
         T.due("11: again, most wet, not least hold", x.dropOf(0, 1), 16);
+        PaneThread little = new PaneThread();
+        little.finger(6);
+        little.tick(48);
+        little.tick(50);
+        little.drop(7, 5, 10);
+        T.due("12: again, 1 wet is wet", little.next(0), 18);
+        little.tick(1);
+        T.due("11: again, 1 wet is wet", little.dropOf(0, 1), 18);
         PaneThread y = new PaneThread();
         y.finger(6);
         y.dirt(18, 9);
@@ -533,6 +549,12 @@ public final class PaneAndDropsTest {
         x.set(2, 0);
         x.tick(50);
         T.due("11: fade 0", x.cellOf(3, 1), 99);
+        PaneThread y = new PaneThread();
+        y.finger(0);
+        y.finger(11);
+        y.tick(1);
+        T.due("11: the first cell fades", y.cellOf(0, 1), 98);
+        T.due("11: the last cell fades", y.cellOf(191, 1), 98);
         T.due("11: ticks", x.count(7), 62);
     }
 

@@ -136,6 +136,9 @@ public final class PathsAndWaysTest {
         T.due("22: no lean, dropping", x.least(1, 1, false), 33);
         PaneThread y = new PaneThread();
         T.due("22: standing, found", y.least(3, 0, false), 1);
+        dirty(y, 17, 1, 28, 9, 29, 9, 30, 9);
+        y.finger(6);
+        T.due("22: dry, again past what holds it", y.least(7, 5, true), 16);
         T.refused("22: kind", BUSY, z -> z.least(8, 5, false), Checks.BEYOND);
         T.refused("22: kind -1", BUSY, z -> z.least(-1, 5, true), Checks.BEYOND);
         T.refused("22: column", BUSY, z -> z.least(0, 12, false), Checks.BEYOND);
@@ -253,6 +256,9 @@ public final class PathsAndWaysTest {
         x.tick(1);
         T.due("27: 27 less 6 is 21", x.edge(29, 2, 5), 8);
         T.due("27: dropping has less by then", x.edge(185, 1, 5), 9);
+        PaneThread trap = new PaneThread();
+        dirty(trap, 27, 9, 28, 9, 29, 9, 17, 5);
+        T.due("27: clean, or else left to where it is held", trap.edge(17, 0, 5), 0);
         T.refused("27: none", y -> {
             Histories.busy(y);
             bar(y, 3, -1, 0);
@@ -291,6 +297,9 @@ public final class PathsAndWaysTest {
         softIs("gaps apart", x, 36, 6, 11);
         x.finger(11);
         T.due("28: wet is softer", x.soft(0), 27);
+        PaneThread second = new PaneThread();
+        bar(second, 1, 2, 0);
+        softIs("from column 1", second, 0, 1, 2);
         T.refused("28: soft(-1)", BUSY, y -> y.soft(-1), Checks.BEYOND);
         T.refused("28: soft(3)", BUSY, y -> y.soft(3), Checks.BEYOND);
         for (int what = 0; what < 3; what++) {

@@ -85,6 +85,14 @@ public final class ProgramsTest {
             T.due("17: tape behind '" + text + "'", x.count(5), 0);
             T.due("17: programs behind '" + text + "'", x.count(4), 1);
         }
+        String[] words = {"going", "dropping", "straight", "standing", "swinging", "broken", "plaited", "again"};
+        for (String word : words) {
+            PaneThread y = new PaneThread();
+            T.due("17: least water, " + word, Checks.programFrom(y, word + " 1 at 0"), 0);
+            T.due("17: most water, " + word, Checks.programFrom(y, word + " 99 at 11"), 1);
+            T.due("17: no water, " + word, Checks.programFrom(y, word + " 0 at 0"), -2 - word.length());
+            T.due("17: too much water, " + word, Checks.programFrom(y, word + " 100 at 0"), -2 - word.length());
+        }
         PaneThread x = new PaneThread();
         for (int i = 0; i < 6; i++) {
             T.due("17: program " + i, Checks.programFrom(x, "wait " + (i + 1)), i);
@@ -149,6 +157,8 @@ public final class ProgramsTest {
         fault("going 5 at at", 11);
         fault("again 5 att 3", 8);
         fault("plaited 5 a 3", 10);
+        fault("boing 5 at 3", 0);
+        fault("bait 5", 0);
         fault("wait 5; going", 13);
         fault("wait 5; gone 5", 8);
         fault("wait 5; " + (char) 233, 8);
@@ -252,6 +262,12 @@ public final class ProgramsTest {
         T.due("19: nothing is wet then", x.cellOf(7, 1), 0);
         T.due("19: no finding", x.status(-1), 0);
         T.due("19: what follows is done", x.set(1, 0), 20);
+        PaneThread y = new PaneThread();
+        Checks.programFrom(y, "wait 2;going 5 at 7;wait 9;wait");
+        Checks.programFrom(y, "wait 3");
+        T.due("18: no ticks of a text with a fault", y.programOf(0, 1), 3);
+        T.due("19: no deeds of a text with a fault", y.play(0), 0);
+        T.due("19: nor its ticks", y.count(7), 3);
         Checks.programFrom(x, "wait 50;wait 50;wait 50;wait 50");
         T.due("19: many ticks", x.play(1), 0);
         T.due("19: so many", x.count(7), 200);
