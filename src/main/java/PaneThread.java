@@ -1262,7 +1262,7 @@ public final class PaneThread {
             behind = start;
             type = typeAt(start);
             if (type == WORD) {
-                while (typeAt(behind) == WORD) {
+                while (behind < tape.length && typeAt(behind) == WORD) {
                     behind++;
                 }
             } else if (type == NUMBER) {
@@ -1274,7 +1274,7 @@ public final class PaneThread {
 
         private void readNumber() {
             value = 0;
-            while (typeAt(behind) == NUMBER) {
+            while (behind < tape.length && typeAt(behind) == NUMBER) {
                 // A number that is too great stays so, however many digits follow.
                 value = Math.min(MOST_NUMBER + 1, value * 10 + tape.bytes[behind] - '0');
                 behind++;
