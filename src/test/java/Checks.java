@@ -13,6 +13,7 @@ final class Checks {
     static final int SIZE = -1000007;
 
     private static final Consumer<PaneThread> NO_CALL = x -> { };
+    private static final int VIEWS = 6;
 
     private int wrong = 0;
     private int asked = 0;
@@ -58,12 +59,23 @@ final class Checks {
         holds(label + " changing something", !viewsBehind(history, call).equals(viewsBehind(history, NO_CALL)));
     }
 
+    /** Four bytes a call, as an object has 512 calls and looking at it takes most of them. */
     static int feedAll(PaneThread x, String text) {
         int answer = 0;
-        for (int i = 0; i < text.length(); i++) {
-            answer = x.feed(text.charAt(i), 1);
+        for (int i = 0; i < text.length(); i += 4) {
+            String some = text.substring(i, Math.min(i + 4, text.length()));
+            answer = x.feed(pack(some), some.length());
         }
         return answer;
+    }
+
+    /** The number whose lowest bytes are these, the first one highest. */
+    static int pack(String text) {
+        int packed = 0;
+        for (int i = 0; i < text.length(); i++) {
+            packed = packed << 8 | text.charAt(i);
+        }
+        return packed;
     }
 
     static int programFrom(PaneThread x, String text) {
@@ -90,7 +102,7 @@ final class Checks {
     /** Each view looks at a new object behind the same calls, as looking at all takes more than 512 calls. */
     private static List<Integer> viewsBehind(Consumer<PaneThread> history, Consumer<PaneThread> call) {
         List<Integer> seen = new ArrayList<>();
-        for (int view = 0; view < 5; view++) {
+        for (int view = 0; view < VIEWS; view++) {
             PaneThread x = new PaneThread();
             history.accept(x);
             call.accept(x);
@@ -114,9 +126,12 @@ final class Checks {
                 seen.add(x.undo());
                 lookAtNumbers(x, seen);
                 break;
-            default:
+            case 4:
                 seen.add(x.undo());
                 lookAtCells(x, seen);
+                break;
+            default:
+                lookAtPrograms(x, seen);
                 break;
         }
     }
@@ -151,6 +166,14 @@ final class Checks {
             seen.add(x.cellOf(cell, 0));
             seen.add(x.cellOf(cell, 1));
         }
+    }
+
+    /** Their deeds are seen only by what they do. */
+    private static void lookAtPrograms(PaneThread x, List<Integer> seen) {
+        for (int program = 0; program < 6; program++) {
+            seen.add(x.play(program));
+        }
+        lookAtNumbers(x, seen);
     }
 
     private static void lookAtSheets(PaneThread x, List<Integer> seen) {

@@ -24,19 +24,6 @@ public final class PathsAndWaysTest {
         T.end("PathsAndWaysTest");
     }
 
-    /** A row of dirt 9 but for one column, with the dirt that is told. */
-    private static void bar(PaneThread x, int row, int gap, int dirtOfGap) {
-        for (int column = 0; column < 12; column++) {
-            x.dirt(12 * row + column, column == gap ? dirtOfGap : 9);
-        }
-    }
-
-    private static void dirty(PaneThread x, int... pairs) {
-        for (int i = 0; i + 1 < pairs.length; i += 2) {
-            x.dirt(pairs[i], pairs[i + 1]);
-        }
-    }
-
     private static void pathIs(String label, PaneThread x, int[] start, int out, int steps, int end, int water) {
         T.due("20: out, " + label, x.path(start[0], start[1], start[2], 0), out);
         T.due("20: steps, " + label, x.path(start[0], start[1], start[2], 1), steps);
@@ -62,7 +49,7 @@ public final class PathsAndWaysTest {
         pathIs("clean, straight", x, start(2, 11, 7), 11, 16, 191, 7);
         pathIs("clean, standing", x, start(3, 0, 7), 0, 16, 180, 7);
 
-        dirty(x, 41, 9, 5, 9);
+        Histories.dirty(x, 41, 9, 5, 9);
         pathIs("its first cell holds nothing", x, start(2, 5, 7), -1, 2, 29, 7);
         pathIs("plaited around", x, start(6, 5, 7), 4, 16, 184, 7);
         x.set(1, 20);
@@ -74,7 +61,7 @@ public final class PathsAndWaysTest {
         PaneThread wet = new PaneThread();
         wet.finger(6);
         pathIs("again to where it is wet", wet, start(7, 5, 30), 6, 16, 186, 15);
-        dirty(wet, 18, 9, 17, 9, 16, 9);
+        Histories.dirty(wet, 18, 9, 17, 9, 16, 9);
         pathIs("as wet as it is", wet, start(0, 5, 15), 6, 16, 186, 15);
         pathIs("held by one less", wet, start(0, 5, 14), -1, 0, 5, 14);
         T.unchanged("20: path(3, 5, 20, 0)", BUSY, y -> y.path(3, 5, 20, 0));
@@ -82,7 +69,7 @@ public final class PathsAndWaysTest {
 
     private static void pathStanding() {
         PaneThread x = new PaneThread();
-        bar(x, 1, -1, 0);
+        Histories.bar(x, 1, -1, 0);
         pathIs("to and fro", x, start(3, 4, 9), -1, 64, 4, 9);
         T.due("21: behind 1", x.along(3, 4, 9, 1), 3);
         T.due("21: behind 63", x.along(3, 4, 9, 63), 3);
@@ -92,7 +79,7 @@ public final class PathsAndWaysTest {
         x.dirt(15, 0);
         pathIs("one aside, then down", x, start(3, 4, 9), 3, 17, 183, 9);
         PaneThread y = new PaneThread();
-        bar(y, 15, 3, 0);
+        Histories.bar(y, 15, 3, 0);
         pathIs("aside ahead of the last row", y, start(3, 4, 9), 3, 17, 183, 9);
         pathIs("to and fro below", y, start(3, 6, 9), -1, 64, 12 * 14 + 6, 9);
         pathIs("to and fro from an odd column", y, start(3, 7, 9), -1, 64, 12 * 14 + 7, 9);
@@ -122,7 +109,7 @@ public final class PathsAndWaysTest {
         PaneThread x = new PaneThread();
         T.due("22: clean", x.least(0, 5, false), 1);
         T.due("22: clean, dropping", x.least(1, 5, false), 16);
-        bar(x, 7, -1, 0);
+        Histories.bar(x, 7, -1, 0);
         T.due("22: a bar", x.least(0, 5, false), 24);
         T.due("22: a bar, dropping", x.least(1, 5, true), 30);
         x.finger(5);
@@ -136,7 +123,7 @@ public final class PathsAndWaysTest {
         T.due("22: no lean, dropping", x.least(1, 1, false), 33);
         PaneThread y = new PaneThread();
         T.due("22: standing, found", y.least(3, 0, false), 1);
-        dirty(y, 17, 1, 28, 9, 29, 9, 30, 9);
+        Histories.dirty(y, 17, 1, 28, 9, 29, 9, 30, 9);
         y.finger(6);
         T.due("22: dry, again past what holds it", y.least(7, 5, true), 16);
         T.refused("22: kind", BUSY, z -> z.least(8, 5, false), Checks.BEYOND);
@@ -152,7 +139,7 @@ public final class PathsAndWaysTest {
         T.due("23: swinging ends at 4", x.basin(4, 5, 4), 1 << 5);
         T.due("23: swinging ends at 0", x.basin(4, 5, 0), 1 << 0 | 1 << 1);
         T.due("23: swinging ends at 11", x.basin(4, 5, 11), 0);
-        bar(x, 15, 6, 0);
+        Histories.bar(x, 15, 6, 0);
         T.due("23: the gap", x.basin(0, 5, 6), 1 << 5 | 1 << 6 | 1 << 7);
         T.due("23: no gap", x.basin(0, 5, 5), 0);
         T.due("23: held ones go out nowhere", x.basin(0, 5, 0), 0);
@@ -170,7 +157,7 @@ public final class PathsAndWaysTest {
         T.due("24: straight", x.ways(2, 5), 4095);
         T.due("24: swinging", x.ways(4, 5), 2047);
         T.due("24: none", x.ways(1, 15), 0);
-        bar(x, 15, 6, 0);
+        Histories.bar(x, 15, 6, 0);
         T.due("24: the gap", x.ways(0, 5), 1 << 6);
         x.dirt(190, 0);
         T.due("24: two gaps", x.ways(0, 5), 1 << 6 | 1 << 10);
@@ -184,7 +171,7 @@ public final class PathsAndWaysTest {
     private static void soonest() {
         PaneThread x = new PaneThread();
         T.due("25: clean", x.soonest(0, 5, 1), 0);
-        dirty(x, 16, 4);
+        Histories.dirty(x, 16, 4);
         T.due("25: standing, aside with little lean", x.soonest(3, 4, 5), 7);
         T.due("25: standing, aside at any lean", x.soonest(3, 4, 2), 0);
         T.due("25: straight", x.soonest(2, 4, 3), 9);
@@ -192,7 +179,7 @@ public final class PathsAndWaysTest {
         T.due("25: lean stays", x.set(0, 3), 3);
         T.refused("25: none", y -> {
             Histories.busy(y);
-            bar(y, 3, -1, 0);
+            Histories.bar(y, 3, -1, 0);
             y.clean(0);
         }, y -> y.soonest(2, 4, 2), Checks.NONE);
         T.refused("25: kind", BUSY, y -> y.soonest(8, 4, 2), Checks.BEYOND);
@@ -207,19 +194,19 @@ public final class PathsAndWaysTest {
         T.due("26: side by side", x.meet(2, 4, 5, 9), Checks.NONE);
         T.due("26: swinging at the edge", x.meet(4, 0, 1, 9), 1);
         T.due("26: the other way round", x.meet(4, 1, 0, 9), 1);
-        dirty(x, 41, 9, 40, 1, 42, 0);
+        Histories.dirty(x, 41, 9, 40, 1, 42, 0);
         T.due("26: behind three", x.meet(0, 5, 6, 9), 3);
         T.due("26: gone where they meet", x.meet(1, 5, 6, 3), 3);
         T.due("26: gone ahead of it", x.meet(1, 5, 6, 2), Checks.NONE);
-        bar(x, 15, 6, 0);
+        Histories.bar(x, 15, 6, 0);
         T.due("26: on the last row", x.meet(0, 7, 6, 9), 15);
         PaneThread y = new PaneThread();
-        bar(y, 1, -1, 0);
+        Histories.bar(y, 1, -1, 0);
         y.dirt(0, 9);
         T.due("26: on one row at unlike times", y.meet(3, 4, 3, 9), Checks.NONE);
         T.due("26: held apart", y.meet(2, 4, 5, 9), Checks.NONE);
         PaneThread z = new PaneThread();
-        dirty(z, 17, 9);
+        Histories.dirty(z, 17, 9);
         T.due("26: as many steps of both", z.meet(3, 5, 6, 9), Checks.NONE);
         T.refused("26: like columns", BUSY, v -> v.meet(0, 5, 5, 9), Checks.BEYOND);
         T.refused("26: kind", BUSY, v -> v.meet(8, 5, 6, 9), Checks.BEYOND);
@@ -229,7 +216,7 @@ public final class PathsAndWaysTest {
         T.refused("26: water", BUSY, v -> v.meet(0, 5, 6, 0), Checks.BEYOND);
         T.refused("26: none", v -> {
             Histories.busy(v);
-            bar(v, 1, -1, 0);
+            Histories.bar(v, 1, -1, 0);
             v.clean(0);
         }, v -> v.meet(2, 4, 5, 9), Checks.NONE);
         T.unchanged("26: meet(0, 5, 6, 20)", BUSY, v -> v.meet(0, 5, 6, 20));
@@ -257,11 +244,11 @@ public final class PathsAndWaysTest {
         T.due("27: 27 less 6 is 21", x.edge(29, 2, 5), 8);
         T.due("27: dropping has less by then", x.edge(185, 1, 5), 9);
         PaneThread trap = new PaneThread();
-        dirty(trap, 27, 9, 28, 9, 29, 9, 17, 5);
+        Histories.dirty(trap, 27, 9, 28, 9, 29, 9, 17, 5);
         T.due("27: clean, or else left to where it is held", trap.edge(17, 0, 5), 0);
         T.refused("27: none", y -> {
             Histories.busy(y);
-            bar(y, 3, -1, 0);
+            Histories.bar(y, 3, -1, 0);
             y.clean(0);
         }, y -> y.edge(100, 2, 4), Checks.NONE);
         T.refused("27: cell", BUSY, y -> y.edge(192, 2, 5), Checks.BEYOND);
@@ -280,9 +267,9 @@ public final class PathsAndWaysTest {
     private static void soft() {
         PaneThread x = new PaneThread();
         softIs("clean", x, 0, 0, 0);
-        bar(x, 0, -1, 0);
+        Histories.bar(x, 0, -1, 0);
         softIs("row 0 doesn't count", x, 0, 0, 0);
-        bar(x, 1, 7, 2);
+        Histories.bar(x, 1, 7, 2);
         softIs("one gap", x, 6, 6, 7);
         x.dirt(31, 1);
         softIs("then left ahead of right", x, 6, 6, 6);
@@ -290,15 +277,15 @@ public final class PathsAndWaysTest {
         softIs("then right", x, 6, 6, 8);
         x.dirt(32, 1);
         softIs("then straight", x, 9, 6, 7);
-        bar(x, 15, 0, 0);
+        Histories.bar(x, 15, 0, 0);
         softIs("a gap too far on the last row", x, 9, 6, 0);
-        bar(x, 15, 0, 2);
-        bar(x, 14, 11, 0);
+        Histories.bar(x, 15, 0, 2);
+        Histories.bar(x, 14, 11, 0);
         softIs("gaps apart", x, 36, 6, 11);
         x.finger(11);
         T.due("28: wet is softer", x.soft(0), 27);
         PaneThread second = new PaneThread();
-        bar(second, 1, 2, 0);
+        Histories.bar(second, 1, 2, 0);
         softIs("from column 1", second, 0, 1, 2);
         T.refused("28: soft(-1)", BUSY, y -> y.soft(-1), Checks.BEYOND);
         T.refused("28: soft(3)", BUSY, y -> y.soft(3), Checks.BEYOND);
@@ -311,13 +298,13 @@ public final class PathsAndWaysTest {
     private static void need() {
         PaneThread x = new PaneThread();
         T.due("29: clean", x.need(), 0);
-        bar(x, 0, -1, 0);
+        Histories.bar(x, 0, -1, 0);
         T.due("29: row 0 doesn't count", x.need(), 0);
-        bar(x, 1, 7, 2);
+        Histories.bar(x, 1, 7, 2);
         T.due("29: one gap", x.need(), 6);
-        bar(x, 5, 4, 1);
+        Histories.bar(x, 5, 4, 1);
         T.due("29: the greater of two", x.need(), 6);
-        bar(x, 6, 6, 0);
+        Histories.bar(x, 6, 6, 0);
         T.due("29: gaps apart", x.need(), 27);
         x.dirt(77, 5);
         T.due("29: the least of what is more", x.need(), 15);
@@ -330,7 +317,7 @@ public final class PathsAndWaysTest {
 
     private static void open() {
         PaneThread x = new PaneThread();
-        dirty(x, 24, 1, 25, 2, 26, 3, 27, 4, 28, 9, 35, 3, 36, 9);
+        Histories.dirty(x, 24, 1, 25, 2, 26, 3, 27, 4, 28, 9, 35, 3, 36, 9);
         T.due("30: row 2, 1", x.open(2, 1), 7);
         T.due("30: row 2, 2", x.open(2, 2), 7);
         T.due("30: row 2, 3", x.open(2, 3), 8);

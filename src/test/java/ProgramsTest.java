@@ -19,21 +19,13 @@ public final class ProgramsTest {
         T.end("ProgramsTest");
     }
 
-    private static int pack(String text) {
-        int packed = 0;
-        for (int i = 0; i < text.length(); i++) {
-            packed = packed << 8 | text.charAt(i);
-        }
-        return packed;
-    }
-
     private static void feed() {
         PaneThread x = new PaneThread();
-        T.due("15: four bytes", x.feed(pack("wait"), 4), 4);
+        T.due("15: four bytes", x.feed(Checks.pack("wait"), 4), 4);
         T.due("15: one byte", x.feed(' ', 1), 5);
-        T.due("15: two bytes, more in front", x.feed(pack("xy12"), 2), 7);
-        T.due("15: three bytes", x.feed(pack(";wa"), 3), 10);
-        T.due("15: the rest", x.feed(pack("it 3"), 4), 14);
+        T.due("15: two bytes, more in front", x.feed(Checks.pack("xy12"), 2), 7);
+        T.due("15: three bytes", x.feed(Checks.pack(";wa"), 3), 10);
+        T.due("15: the rest", x.feed(Checks.pack("it 3"), 4), 14);
         T.due("15: highest first", x.program(), 0);
         T.due("15: both numbers were read", x.programOf(0, 1), 15);
 
@@ -48,13 +40,7 @@ public final class ProgramsTest {
         T.due("15: not one more", y.feed(0, 1), Checks.FULL);
         T.due("15: -1 less 0 for byte 255", y.program(), -1);
 
-        Consumer<PaneThread> full = z -> {
-            Histories.busy(z);
-            z.wipe();
-            for (int i = 0; i < 25; i++) {
-                z.feed(pack("    "), 4);
-            }
-        };
+        Consumer<PaneThread> full = Histories::fullTape;
         T.refused("15: feed(0, 0)", full, z -> z.feed(0, 0), Checks.BEYOND);
         T.refused("15: feed(0, 5)", full, z -> z.feed(0, 5), Checks.BEYOND);
         T.refused("15: feed(0, -1)", BUSY, z -> z.feed(0, -1), Checks.BEYOND);
