@@ -214,6 +214,8 @@ final class PaneBoundaries {
             Histories.bar(x, row, -1, 0);
             b.due("a row full of DIRT", x.clean(row), 12);
             b.due("no DIRT any more", x.count(3), 0);
+            b.due("DIRT of the first is 0", x.cellOf(12 * row, 0), 0);
+            b.due("DIRT of the last is 0", x.cellOf(12 * row + 11, 0), 0);
             b.due("again", x.clean(row), 0);
             Histories.dirty(x, 12 * row, 1, 12 * row + 11, 1);
             b.due("its first and last CELL", x.clean(row), 2);

@@ -125,6 +125,9 @@ final class PathsBoundaries {
         Histories.bar(again, 15, 4, 0);
         b.due("AGAIN, led astray by what is WET", again.least(7, 5, false), 38);
         b.due("AGAIN, dry", again.least(7, 5, true), 16);
+        PaneThread trap = new PaneThread();
+        Histories.dirty(trap, 17, 1, 28, 9, 29, 9, 30, 9);
+        b.due("AGAIN, nothing being WET: not STRAIGHT, where it would be HELD", trap.least(7, 5, true), 16);
 
         b.of(22, "BEYOND.");
         b.bounds("least(kind, 5, false)", 0, 7, (y, v) -> y.least(v, 5, false));
@@ -338,6 +341,14 @@ final class PathsBoundaries {
         left.dirt(24, 2);
         softIs("RIGHT, as it is softer", left, 3, 0, 2);
 
+        PaneThread twice = new PaneThread();
+        Histories.bar(twice, 2, 4, 8);
+        Histories.bar(twice, 9, 6, 7);
+        softIs("two HOLDS make a sum", twice, 45, 2, 6);
+        Histories.bar(twice, 9, -1, 0);
+        Histories.bar(twice, 2, -1, 0);
+        softIs("the same two anywhere", twice, 54, 0, 0);
+
         b.of(28, "BEYOND.");
         b.bounds("soft(what)", 0, 2, (y, v) -> y.soft(v));
     }
@@ -358,6 +369,13 @@ final class PathsBoundaries {
         b.due("the last row counts, the most of all", x.need(), 27);
         x.dirt(191, 1);
         b.due("the last CELL", x.need(), 3);
+        Histories.bar(x, 9, 5, 1);
+        b.due("as much twice is no more", x.need(), 3);
+        x.dirt(191, 9);
+        Histories.bar(x, 9, -1, 0);
+        b.due("the most twice is no more", x.need(), 27);
+        x.clean(9);
+        x.dirt(191, 1);
         Histories.bar(x, 4, 0, 0);
         b.due("11 rows for 11 columns", x.need(), 3);
         Histories.bar(x, 5, 0, 0);

@@ -484,7 +484,69 @@ final class SheetsBoundaries {
         b.due("the last SPOT", full.as(9, 2), 7);
         b.due("the last PROGRAM", full.programOf(5, 0), 12);
         b.due("no TICKS", full.count(7), 0);
+        imageBehindOthers();
         imageLeaves();
+    }
+
+    /** What was kept comes back though all of it has become otherwise meanwhile. */
+    private void imageBehindOthers() {
+        PaneThread x = new PaneThread();
+        x.image();
+        x.drop(5, 4, 30);
+        x.drop(7, 9, 40);
+        x.tick(2);
+        x.hold(0, 0);
+        x.hold(9, 1);
+        Checks.programFrom(x, "wait 3;again 9 at 11");
+        x.image();
+        x.tick(50);
+        x.drop(2, 0, 1);
+        x.drop(3, 11, 2);
+        x.hold(0, 1);
+        x.hold(9, -1);
+        x.tear();
+        b.due("one that is torn doesn't come back", x.undo(), Checks.NONE);
+
+        PaneThread y = new PaneThread();
+        y.image();
+        y.undo();
+        Checks.programFrom(y, "wait 3;again 9 at 11");
+        y.drop(5, 4, 30);
+        y.drop(7, 9, 40);
+        y.tick(2);
+        y.hold(0, 0);
+        y.hold(9, 1);
+        y.image();
+        y.tick(50);
+        y.drop(2, 0, 1);
+        y.drop(3, 11, 2);
+        y.hold(0, 1);
+        y.hold(9, -1);
+        b.due("two DROPS", y.undo(), 2);
+        int[][] due = {{5, 28, 30, 2}, {7, 33, 38, 2}};
+        for (int drop = 0; drop < 2; drop++) {
+            for (int what = 0; what < 4; what++) {
+                b.due("what " + what + " of DROP " + drop, y.dropOf(drop, what), due[drop][what]);
+            }
+        }
+        b.due("the first SPOT", y.as(0, 5), 0);
+        b.due("the last SPOT", y.as(9, 7), 1);
+        y.tear();
+        y.image();
+        PaneThread z = new PaneThread();
+        z.image();
+        Checks.programFrom(z, "wait 3;again 9 at 11");
+        z.image();
+        z.undo();
+        b.due("DEEDS of a PROGRAM", z.programOf(0, 0), 2);
+        b.due("its TICKS", z.programOf(0, 1), 3);
+        z.tear();
+        z.image();
+        z.undo();
+        b.due("what it plays", z.play(0), 1);
+        b.due("its KIND", z.dropOf(0, 0), 7);
+        b.due("its CELL", z.dropOf(0, 1), 11);
+        b.due("its WATER", z.dropOf(0, 2), 9);
     }
 
     private void imageLeaves() {
@@ -603,8 +665,20 @@ final class SheetsBoundaries {
         }
         b.due("TICKS of PROGRAMS count", x.count(7), 350);
         PaneThread one = new PaneThread();
-        Histories.wetTo(one, 0, 1);
         one.dirt(191, 1);
+        one.drop(2, 5, 99);
+        one.drop(2, 5, 99);
+        b.due("the most WATER twice", one.count(1), 198);
+        one.tick(1);
+        b.due("WATER of one that joined another is none", one.count(1), 99);
+        one.tick(15);
+        b.due("WATER of one that went OUT is none", one.count(1), 0);
+        one.drop(1, 5, 1);
+        one.tick(1);
+        b.due("WATER of one that is GONE is none", one.count(1), 0);
+        one.set(2, 9);
+        one.tick(11);
+        Histories.wetTo(one, 0, 1);
         b.due("1 WET counts", one.count(2), 16);
         b.due("1 DIRT counts", one.count(3), 1);
         one.tick(1);

@@ -141,6 +141,13 @@ final class TextBoundaries {
         fault("at 5", 0);
         fault("goin 5 at 5", 0);
         fault("goings 5 at 5", 0);
+        fault("boing 5 at 5", 0);
+        fault("mean 5", 0);
+        fault("lead 5", 0);
+        fault("going 5 it 5", 8);
+        fault("going 5 an 5", 8);
+        fault("wind !5", 5);
+        fault("wind ;5", 5);
         fault("going 5 att 5", 8);
         fault("going 5 going 5", 8);
         fault("going 5 5", 8);
@@ -225,11 +232,30 @@ final class TextBoundaries {
         b.due("FADE 9", ends.set(2, 1), 9);
         ends.play(2);
         b.due("WIND 0 of -0", ends.set(1, 0), 0);
+        oneDeedAlone("wait 9", 0, 0, 9, 3, 0, 1);
+        oneDeedAlone("lean 9", 0, 0, 0, 9, 0, 1);
+        oneDeedAlone("fade 9", 0, 0, 0, 3, 0, 9);
+        oneDeedAlone("wind 9", 0, 0, 0, 3, 9, 1);
+        oneDeedAlone("wind -9", 0, 0, 0, 3, -9, 1);
+        oneDeedAlone("finger 9", 0, 16, 0, 3, 0, 1);
+        oneDeedAlone("going 9 at 9", 1, 1, 0, 3, 0, 1);
         PaneThread order = new PaneThread();
         Checks.programFrom(order, "wait 16;straight 9 at 5");
         Checks.programFrom(order, "straight 9 at 5;wait 16");
         b.due("a DROP behind the TICKS is left", order.play(0), 1);
         b.due("a DROP ahead of the TICKS isn't", order.play(1), 0);
         b.due("both are SHED", order.shed(5), 18);
+    }
+
+    /** What a deed does, and that it does nothing else: drops, wet cells, ticks, lean, wind, fade. */
+    private void oneDeedAlone(String deed, int... due) {
+        PaneThread x = new PaneThread();
+        Checks.programFrom(x, deed);
+        b.due(deed + ", DROPS", x.play(0), due[0]);
+        b.due(deed + ", WET CELLS", x.count(2), due[1]);
+        b.due(deed + ", TICKS", x.count(7), due[2]);
+        b.due(deed + ", LEAN", x.set(0, 0), due[3]);
+        b.due(deed + ", WIND", x.set(1, 0), due[4]);
+        b.due(deed + ", FADE", x.set(2, 0), due[5]);
     }
 }
