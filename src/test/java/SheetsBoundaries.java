@@ -488,65 +488,47 @@ final class SheetsBoundaries {
         imageLeaves();
     }
 
-    /** What was kept comes back though all of it has become otherwise meanwhile. */
-    private void imageBehindOthers() {
+    /** Two drops, two spots and a program, behind an image of a new object. */
+    private static PaneThread keptTwice() {
         PaneThread x = new PaneThread();
         x.image();
+        x.undo();
+        Checks.programFrom(x, "wait 3;again 9 at 11");
         x.drop(5, 4, 30);
         x.drop(7, 9, 40);
         x.tick(2);
         x.hold(0, 0);
         x.hold(9, 1);
-        Checks.programFrom(x, "wait 3;again 9 at 11");
         x.image();
+        return x;
+    }
+
+    /** What was kept comes back though all of it has become otherwise meanwhile. */
+    private void imageBehindOthers() {
+        PaneThread x = keptTwice();
         x.tick(50);
         x.drop(2, 0, 1);
         x.drop(3, 11, 2);
         x.hold(0, 1);
         x.hold(9, -1);
-        x.tear();
-        b.due("one that is torn doesn't come back", x.undo(), Checks.NONE);
-
-        PaneThread y = new PaneThread();
-        y.image();
-        y.undo();
-        Checks.programFrom(y, "wait 3;again 9 at 11");
-        y.drop(5, 4, 30);
-        y.drop(7, 9, 40);
-        y.tick(2);
-        y.hold(0, 0);
-        y.hold(9, 1);
-        y.image();
-        y.tick(50);
-        y.drop(2, 0, 1);
-        y.drop(3, 11, 2);
-        y.hold(0, 1);
-        y.hold(9, -1);
-        b.due("two DROPS", y.undo(), 2);
+        b.due("two DROPS", x.undo(), 2);
         int[][] due = {{5, 28, 30, 2}, {7, 33, 38, 2}};
         for (int drop = 0; drop < 2; drop++) {
             for (int what = 0; what < 4; what++) {
-                b.due("what " + what + " of DROP " + drop, y.dropOf(drop, what), due[drop][what]);
+                b.due("what " + what + " of DROP " + drop, x.dropOf(drop, what), due[drop][what]);
             }
         }
-        b.due("the first SPOT", y.as(0, 5), 0);
-        b.due("the last SPOT", y.as(9, 7), 1);
-        y.tear();
-        y.image();
-        PaneThread z = new PaneThread();
-        z.image();
-        Checks.programFrom(z, "wait 3;again 9 at 11");
-        z.image();
-        z.undo();
-        b.due("DEEDS of a PROGRAM", z.programOf(0, 0), 2);
-        b.due("its TICKS", z.programOf(0, 1), 3);
-        z.tear();
-        z.image();
-        z.undo();
-        b.due("what it plays", z.play(0), 1);
-        b.due("its KIND", z.dropOf(0, 0), 7);
-        b.due("its CELL", z.dropOf(0, 1), 11);
-        b.due("its WATER", z.dropOf(0, 2), 9);
+        b.due("the first SPOT", x.as(0, 5), 0);
+        b.due("the last SPOT", x.as(9, 7), 1);
+        b.due("DEEDS of a PROGRAM", x.programOf(0, 0), 2);
+        b.due("its TICKS", x.programOf(0, 1), 3);
+        b.due("what it plays", x.play(0), 3);
+        b.due("KIND of what it makes", x.dropOf(2, 0), 7);
+        b.due("CELL of what it makes", x.dropOf(2, 1), 11);
+        b.due("WATER of what it makes", x.dropOf(2, 2), 9);
+        PaneThread torn = keptTwice();
+        torn.tear();
+        b.due("neither comes back if it is torn", torn.undo(), Checks.NONE);
     }
 
     private void imageLeaves() {

@@ -227,7 +227,7 @@ final class TermsBoundaries {
         b.due("behind an even number it is where it began", x.path(3, 5, 26, 2), 5);
         b.due("no OUT behind 64", x.path(3, 5, 26, 0), -1);
         PaneThread zigzag = new PaneThread();
-        // On every second row aside: 8 times aside, 15 times down, and out.
+        // 8 times aside, 15 times down, and out. No more: what turned it aside stands beside it on the next row.
         for (int i = 0; i < 8; i++) {
             zigzag.dirt(12 * (2 * i + 1) + (i % 2 == 0 ? 4 : 3), 9);
         }
