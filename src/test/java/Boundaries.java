@@ -18,7 +18,7 @@ final class Boundaries {
     private final Checks checks = new Checks();
     private final Sentences sentences;
     private final Set<String> tested = new HashSet<>();
-    private int promise = -1;
+    private int promise = Sentences.TERMS;
     private String sentence = "";
 
     Boundaries(Sentences sentences) {
@@ -75,8 +75,8 @@ final class Boundaries {
     }
 
     void end(String name) {
-        for (int p = 0; p <= Sentences.PROMISES; p++) {
-            checks.holds("promise " + p + " having sentences", !sentences.of(p).isEmpty());
+        for (int p = Sentences.FIRST; p <= Sentences.PROMISES; p++) {
+            checks.holds(heading(p) + " having sentences", !sentences.of(p).isEmpty());
             for (String s : sentences.of(p)) {
                 checks.holds(place(p, s) + "having a test", tested.contains(place(p, s)));
             }
@@ -94,6 +94,19 @@ final class Boundaries {
     }
 
     private static String place(int promise, String sentence) {
-        return (promise == Sentences.TERMS ? "terms" : "promise " + promise) + ", \"" + sentence + "\": ";
+        return heading(promise) + ", \"" + sentence + "\": ";
+    }
+
+    private static String heading(int promise) {
+        switch (promise) {
+            case Sentences.NOT_PROMISED:
+                return "not promised";
+            case Sentences.WHAT_IT_IS:
+                return "what it is";
+            case Sentences.TERMS:
+                return "terms";
+            default:
+                return "promise " + promise;
+        }
     }
 }

@@ -1,10 +1,11 @@
 import java.nio.file.Files;
 import java.nio.file.Path;
 
-/** Each sentence of the document's terms and promises has tests of its boundary cases, and they hold. */
+/** Each sentence of the document has tests of its boundary cases, and they hold. */
 public final class BoundariesTest {
     public static void main(String[] args) throws Exception {
         Boundaries b = new Boundaries(new Sentences(Files.readString(Path.of(args[1]))));
+        new AroundBoundaries(b, Files.readString(Path.of(args[0]))).all();
         new TermsBoundaries(b).all();
         new GoingBoundaries(b).all();
         new TextBoundaries(b).all();

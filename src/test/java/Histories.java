@@ -1,5 +1,7 @@
 /** Calls that bring an object into a state in which changes would be seen. */
 final class Histories {
+    static final int CALLS_OF_BUSY = 30;
+
     private Histories() {
     }
 

@@ -1,31 +1,35 @@
-import java.util.ArrayList;
 import java.util.LinkedHashMap;
 import java.util.List;
 import java.util.Map;
 import java.util.regex.Matcher;
 import java.util.regex.Pattern;
 
-/** The document's sentences, by the promise under whose heading they stand; those of "Terms" stand under 0. */
+/** The document's sentences, by the promise under whose heading they stand; other headings have numbers below 1. */
 final class Sentences {
+    static final int NOT_PROMISED = -2;
+    static final int WHAT_IT_IS = -1;
     static final int TERMS = 0;
     static final int PROMISES = 43;
+    /** The numbers from here to PROMISES are headings. */
+    static final int FIRST = NOT_PROMISED;
+
+    private static final Map<String, Integer> HEADINGS =
+            Map.of("What it is", WHAT_IT_IS, "Terms", TERMS, "Not promised", NOT_PROMISED);
 
     private final Map<Integer, List<String>> byPromise = new LinkedHashMap<>();
 
     Sentences(String document) {
-        int terms = document.indexOf("## Terms");
-        int first = document.indexOf("## Promise 1:");
-        if (terms < 0 || first < terms) {
-            throw new IllegalArgumentException("the document has no terms ahead of its promises");
+        Matcher section = Pattern.compile("(?ms)^## ([^\\n]*)\\n(.*?)(?=^## |\\z)").matcher(document);
+        while (section.find()) {
+            Matcher promise = Pattern.compile("Promise (\\d+): .*").matcher(section.group(1));
+            Integer number = promise.matches() ? Integer.valueOf(promise.group(1)) : HEADINGS.get(section.group(1));
+            // "The public face" has no sentences; RulesTest holds the class against it.
+            if (number != null) {
+                byPromise.put(number, split(section.group(2)));
+            }
         }
-        byPromise.put(TERMS, split(document.substring(terms + "## Terms".length(), first)));
-        Matcher promise = Pattern.compile("## Promise (\\d+): [^\\n]*\\n(.*?)(?=\\n## |\\z)", Pattern.DOTALL)
-                .matcher(document);
-        while (promise.find()) {
-            byPromise.put(Integer.parseInt(promise.group(1)), split(promise.group(2)));
-        }
-        if (byPromise.size() != PROMISES + 1) {
-            throw new IllegalArgumentException("the document has " + (byPromise.size() - 1) + " promises");
+        if (byPromise.size() != PROMISES + HEADINGS.size()) {
+            throw new IllegalArgumentException("the document has " + byPromise.size() + " headings with sentences");
         }
     }
 
@@ -36,14 +40,7 @@ final class Sentences {
     private static List<String> split(String text) {
         String plain = text.replaceFirst("`[^`]*\\)`: ", "").replace("```text", "").replace("```", "")
                 .replaceAll("(?m)^\\d\\. ", "").replaceAll("\\s+", " ").trim();
-        List<String> sentences = new ArrayList<>();
         // Two points are no end of a sentence: "0, 1, .. (at most 6)".
-        for (String sentence : plain.split("(?<=[^.]\\.) ")) {
-            // These tell the order of the calls in the interface, and ask for nothing.
-            if (!sentence.startsWith("Ahead of the calls")) {
-                sentences.add(sentence);
-            }
-        }
-        return sentences;
+        return List.of(plain.split("(?<=[^.]\\.) "));
     }
 }
