@@ -1,5 +1,6 @@
 /** Calls that bring an object into a state in which changes would be seen. */
 final class Histories {
+    /** As many calls as busy makes, those of its text among them. */
     static final int CALLS_OF_BUSY = 30;
 
     private Histories() {
